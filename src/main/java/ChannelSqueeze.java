@@ -1540,8 +1540,6 @@ public final class ChannelSqueeze {
         /** The channels that all have, once squeezed. */
         private final int[] row = new int[MOST_STATIONS];
         private final int[] from = new int[MOST_STATIONS];
-        /** Whether the rest can go one by one, once a set of the movers has gone. */
-        private final boolean[] restCanGo = new boolean[SETS];
         private final int[] sequence = new int[MOST_STATIONS];
         private int movers;
         private int sequenceLength;
@@ -1622,18 +1620,18 @@ public final class ChannelSqueeze {
             }
         }
 
-        /** Finds the order of the movers of the row found last; of no length if there is none. */
+        /**
+         * Finds the order of the movers of the row found last; of no length if there is none. Who has
+         * gone disturbs nobody where that one goes, since both are of one row: so the least that may
+         * go never stands in the way of the rest, and no choice has to be taken back.
+         */
         void findSequence(Plan plan, Now now) {
             sequenceLength = 0;
-            for (int gone = movers; gone >= 0 && gone < SETS; gone--) {
-                if ((gone & ~movers) == 0) {
-                    restCanGo[gone] = gone == movers || nextToGo(plan, now, gone) != NONE;
-                }
-            }
             int gone = 0;
             for (int i = 0; i < MOST_STATIONS && gone != movers; i++) {
                 int s = nextToGo(plan, now, gone);
                 if (s == NONE) {
+                    sequenceLength = 0;
                     return;
                 }
                 sequence[i] = s;
@@ -1642,12 +1640,9 @@ public final class ChannelSqueeze {
             }
         }
 
-        /** The least mover that may go next, so that the rest can still go behind it; or NONE. */
         private int nextToGo(Plan plan, Now now, int gone) {
             for (int s = 0; s < MOST_STATIONS; s++) {
-                int then = gone | bit(s);
-                if (has(movers & ~gone, s) && then >= 0 && then < SETS
-                        && restCanGo[then] && mayGo(plan, now, gone, s)) {
+                if (has(movers & ~gone, s) && mayGo(plan, now, gone, s)) {
                     return s;
                 }
             }
