@@ -228,7 +228,7 @@ public final class ChannelSqueeze {
         }
         packer.learn(plan, now);
         packer.begin(set, m);
-        return answered(packer.countRows(set, MOST_ROWS));
+        return answered(packer.countRows(0, set, MOST_ROWS));
     }
 
     public int fewest(int set) {
@@ -286,7 +286,7 @@ public final class ChannelSqueeze {
         for (int c = 1; c <= m; c++) {
             packer.begin(set, m);
             packer.limit(s, channelBit(c));
-            if (packer.isPossible(set)) {
+            if (packer.search(0, set)) {
                 found |= channelBit(c);
             }
         }
@@ -855,7 +855,7 @@ public final class ChannelSqueeze {
         private int kind;
         private int start;
         private int length;
-        /** The number that a whole tells, or the byte of a sign. */
+        /** The number that a whole tells, or the byte of a sign; of a word it says nothing. */
         private int number;
         private int faultFound;
         private int faultAt;
@@ -1063,46 +1063,33 @@ public final class ChannelSqueeze {
             }
             start = next;
             length = 0;
-            number = 0;
             if (next >= end) {
                 kind = END;
                 return;
             }
             int first = tape.byteAt(next);
-            if (isLetter(first)) {
-                nextWord();
-            } else if (isDigit(first)) {
-                nextWhole();
-            } else {
-                kind = first == ';' || first == ',' ? SIGN : NO_TOKEN;
-                number = first;
-                next++;
-            }
-        }
-
-        private void nextWord() {
-            while (next < end && isLetter(tape.byteAt(next))) {
-                next++;
-            }
-            length = next - start;
-            kind = length <= MOST_LETTERS ? WORD : NO_TOKEN;
-        }
-
-        private void nextWhole() {
-            while (next < end && isDigit(tape.byteAt(next))) {
+            kind = kindOf(first);
+            number = kind == WHOLE ? first - '0' : first;
+            next++;
+            boolean runsOn = kind == WORD || kind == WHOLE;
+            while (runsOn && next < end && kindOf(tape.byteAt(next)) == kind) {
                 number = number * 10 + tape.byteAt(next) - '0';
                 next++;
             }
             length = next - start;
-            kind = length <= MOST_DIGITS ? WHOLE : NO_TOKEN;
+            if (kind == WORD && length > MOST_LETTERS || kind == WHOLE && length > MOST_DIGITS) {
+                kind = NO_TOKEN;
+            }
         }
 
-        private static boolean isLetter(int b) {
-            return b >= 'a' && b <= 'z';
-        }
-
-        private static boolean isDigit(int b) {
-            return b >= '0' && b <= '9';
+        private static int kindOf(int b) {
+            if (b >= 'a' && b <= 'z') {
+                return WORD;
+            }
+            if (b >= '0' && b <= '9') {
+                return WHOLE;
+            }
+            return b == ';' || b == ',' ? SIGN : NO_TOKEN;
         }
     }
 
@@ -1280,7 +1267,7 @@ public final class ChannelSqueeze {
             int at = m * SETS + set;
             if (known[at] >> 1 != age) {
                 begin(set, m);
-                known[at] = 2 * age + (isPossible(set) ? 1 : 0);
+                known[at] = 2 * age + (search(0, set) ? 1 : 0);
             }
             return (known[at] & 1) != 0;
         }
@@ -1314,10 +1301,7 @@ public final class ChannelSqueeze {
             }
         }
 
-        boolean isPossible(int set) {
-            return search(0, set);
-        }
-
+        /** Whether the stations of a set can each have one of the channels left at this depth. */
         private boolean search(int depth, int set) {
             if (set == 0) {
                 return true;
@@ -1339,11 +1323,8 @@ public final class ChannelSqueeze {
             return false;
         }
 
-        int countRows(int set, int most) {
-            return countFrom(0, set, most);
-        }
-
-        private int countFrom(int depth, int set, int most) {
+        /** In how many ways they can, so many at most. */
+        private int countRows(int depth, int set, int most) {
             if (set == 0) {
                 return 1;
             }
@@ -1362,7 +1343,7 @@ public final class ChannelSqueeze {
             for (int c = 1; c <= MOST_CHANNELS && found < most; c++) {
                 int channel = choices & channelBit(c);
                 if (channel != 0 && take(depth, set, s, channel)) {
-                    found += countFrom(depth + 1, set & ~bit(s), most - found);
+                    found += countRows(depth + 1, set & ~bit(s), most - found);
                 }
             }
             return found;
@@ -1559,17 +1540,17 @@ public final class ChannelSqueeze {
                 from[s] = old[s];
                 row[s] = old[s];
             }
-            movers = 0;
             int must = thoseThatMust(air, m);
             boolean found = false;
             for (int moves = Integer.bitCount(must); moves <= MOST_STATIONS && !found; moves++) {
                 for (int moving = must; moving <= air; moving++) {
-                    if (isChoice(air, must, moving, moves) && settleWith(air, moving, m)) {
-                        if (!found || isAheadOfRow(air)) {
+                    if (isChoice(air, must, moving, moves)) {
+                        holdAllBut(moving, air, m);
+                        if (packer.settle(air) && (!found || isAheadOfRow(air))) {
                             takeRow(air);
                             movers = moving;
+                            found = true;
                         }
-                        found = true;
                     }
                 }
             }
@@ -1592,15 +1573,14 @@ public final class ChannelSqueeze {
             return (moving & ~air) == 0 && (must & ~moving) == 0 && Integer.bitCount(moving) == moves;
         }
 
-        /** Settles all on air, those that don't move where they were; false if they can't be. */
-        private boolean settleWith(int air, int moving, int m) {
+        /** All on air but the moving ones have no channel left but their own. */
+        private void holdAllBut(int moving, int air, int m) {
             packer.begin(air, m);
             for (int s = 0; s < MOST_STATIONS; s++) {
                 if (has(air & ~moving, s)) {
                     packer.limit(s, channelBit(from[s]));
                 }
             }
-            return packer.settle(air);
         }
 
         private boolean isAheadOfRow(int air) {

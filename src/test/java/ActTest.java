@@ -106,6 +106,9 @@ public final class ActTest {
         Check.gives(x, "lay(2) again moves nobody", x.lay(2), 0);
         Check.gives(x, "that is an act, too", x.about(8), 2);
         x.move(0, 4, true);
+        Check.gives(x, "the first station moves, too", x.lay(2), 1);
+        Check.gives(x, "its channel", x.station(0, 3), 1);
+        x.move(0, 4, true);
         x.buy(0, 0);
         Check.gives(x, "lay(2) of those on air", x.lay(2), 0);
         Check.gives(x, "one off the air stands", x.station(0, 3), 4);

@@ -6,6 +6,7 @@ public final class ClockTest {
         frozenWithoutAList();
         soldAtNought();
         roundsOfOneAlone();
+        payAlone();
         nobodyOnAir();
         thoseOffTheAir();
         priceOfWorthIsNotBelow();
@@ -75,6 +76,21 @@ public final class ClockTest {
             Check.gives(x, "who stays", x.clock(1, row[1], row[2], 1), row[0] == 0 ? 0 : 1);
             Check.gives(x, "who is sold", x.clock(1, row[1], row[2], 3), row[0] == 0 ? 1 : 0);
         }
+    }
+
+    private static void payAlone() {
+        ChannelSqueeze x = atOnePlace(10, 50, 0);
+        Check.gives(x, "pay ahead of any clock", x.pay(1, 40, 15, 0), 25);
+        Check.gives(x, "pay of another clock", x.pay(3, 40, 15, 0), -2);
+        Check.gives(x, "pay of the first clock again", x.pay(1, 40, 15, 2), 40);
+        ChannelSqueeze y = atOnePlace(5);
+        Check.gives(y, "sold", y.pay(1, 5, 5, 0), -2);
+        y.value(0, 0);
+        Check.gives(y, "sold at nought", y.pay(1, 5, 5, 0), 0);
+        y.ban(0, 1);
+        Check.gives(y, "frozen at once", y.pay(1, 5, 5, 0), 5);
+        y.undo();
+        Check.gives(y, "sold at nought, though it was frozen", y.pay(1, 5, 5, 0), 0);
     }
 
     private static void nobodyOnAir() {

@@ -64,6 +64,13 @@ public final class FitTest {
             Check.gives(y, "the first row isn't the greedy one: " + s, y.rowOf(7, 5, s), other[s]);
         }
         Check.refuses(y, "rowOf(7, 4, 0)", y.rowOf(7, 4, 0), 6);
+        ChannelSqueeze ten = Check.told("channels 10;station a at 0 0 reach 1 on 1 worth 1 not 1,2,3,4,5,6,7,8;"
+            + "station b at 0 2 reach 1 on 1 worth 1 not 1,2,3,4,5,6,7,8,10");
+        Check.gives(ten, "the last channel alone is left", ten.rowOf(3, 10, 0), 10);
+        Check.gives(ten, "could", ten.could(3, 10, 0), 512);
+        Check.gives(ten, "fits", ten.fits(3, 10), 1);
+        Check.gives(ten, "rows", ten.rows(3, 10), 1);
+        Check.gives(ten, "fewest", ten.fewest(3), 10);
         Check.refuses(y, "rowOf(8, 5, 3)", y.rowOf(8, 5, 3), 6);
     }
 

@@ -9,6 +9,7 @@ public final class SqueezeTest {
 
     public static void main(String[] args) {
         squeeze();
+        allMove();
         fewestMovesGoAheadOfTheFirstRow();
         likeOnesTheFirst();
         wrongOnesMustMove();
@@ -38,6 +39,22 @@ public final class SqueezeTest {
         Check.refuses(x, "squeezeOf(1, 0)", x.squeezeOf(1, 0), 6);
         Check.isTrue("nothing is changed", Check.state(x).equals(before));
         row(Check.told(PAIR), 2, 3, 1, 2, 1);
+        ChannelSqueeze ten = Check.told("channels 10;station a at 0 0 reach 1 on 10 worth 1;station b at 0 1 reach 1 on 10 worth 1");
+        row(ten, 10, 1, 1, 10);
+    }
+
+    private static void allMove() {
+        StringBuilder text = new StringBuilder("channels 9");
+        for (int s = 0; s < 8; s++) {
+            text.append(";station ").append((char) ('a' + s)).append(" at ").append(10 * s).append(" 0 reach 5 on 9 worth 1");
+        }
+        ChannelSqueeze x = Check.told(text.toString());
+        row(x, 9, 4, 1, 9, 1, 9, 1, 9, 1, 9);
+        row(x, 8, 8, 1, 2, 1, 2, 1, 2, 1, 2);
+        order(x, 8, 0, 1, 2, 3, 4, 5, 6, 7);
+        Check.gives(x, "steps down to 2", x.steps(2, 0), 8);
+        Check.gives(x, "lay(8)", x.lay(8), 8);
+        Check.gives(x, "all channels", x.on(1) + 256 * x.on(2), 85 + 256 * 170);
     }
 
     private static void fewestMovesGoAheadOfTheFirstRow() {

@@ -122,6 +122,18 @@ public final class TextTest {
         Check.gives(x, "the first n bytes alone are the text", x.text(ONE.length()), 1);
         Check.same("all others are gone", x.bytes(), 0);
 
+        Check.feed(x, ONE + "55 not 12");
+        Check.gives(x, "the text ends within a whole", x.text(ONE.length() + 1), 1);
+        Check.gives(x, "worth", x.station(0, 4), 5);
+        Check.feed(x, ONE + " not 12");
+        Check.gives(x, "the text ends within another whole", x.text(ONE.length() + 6), 1);
+        Check.gives(x, "banned", x.station(0, 7), 1);
+        Check.feed(x, "channels 3;station abc at 0 0");
+        Check.same("the text ends within a word", x.text(21), -1);
+        Check.same("where()", x.where(), 21);
+        Check.feed(x, ONE + "?");
+        Check.gives(x, "the text ends ahead of a fault", x.text(ONE.length()), 1);
+
         StringBuilder whole = new StringBuilder(ONE + ";station b at 1 1 reach 1 on 1 worth 1");
         while (whole.length() < 700) {
             whole.insert(8, ' ');
@@ -226,6 +238,9 @@ public final class TextTest {
         faulty(1, "channels |1000");
         faulty(1, "channels |0003");
         faulty(1, "|channelss 3");
+        faulty(1, "|xhannels 3");
+        faulty(1, "|channelx 3");
+        faulty(1, "channels 3;|xtation a at 0 0 reach 1 on 1 worth 0");
         faulty(1, "channels 3|.");
         faulty(1, "channels 3;station a|\u00e9 at 0 0 reach 1 on 1 worth 0");
         faulty(1, "channels 3;station a at 0 0 reach 1 on 1 worth |1000");

@@ -162,6 +162,10 @@ public final class ToldTest {
         Check.refuses(x, "on(0)", x.on(0), 2);
         Check.refuses(x, "on(5)", x.on(5), 2);
         Check.refuses(x, "on(-1)", x.on(-1), 2);
+        ChannelSqueeze alone = Check.told(ROW);
+        alone.buy(1, 0);
+        alone.buy(2, 0);
+        Check.gives(alone, "the greatest channel of the first alone", alone.about(7), 1);
     }
 
     private static void free() {
