@@ -169,11 +169,8 @@ public final class ChannelSqueeze {
     }
 
     public int on(int c) {
-        if (!hasText()) {
-            return refused(NO_SUCH);
-        }
-        if (!isChannel(c)) {
-            return refused(BAD_NUMBER);
+        if (isRefused(hasText(), isChannel(c))) {
+            return NONE;
         }
         int found = 0;
         for (int s = 0; s < plan.stations.count; s++) {
@@ -194,22 +191,16 @@ public final class ChannelSqueeze {
     // ---- what fits
 
     public int fits(int set, int m) {
-        if (!hasText()) {
-            return refused(NO_SUCH);
-        }
-        if (!isSet(set) || !isChannel(m)) {
-            return refused(BAD_NUMBER);
+        if (isRefused(hasText(), isSet(set) && isChannel(m))) {
+            return NONE;
         }
         packer.learn(plan, now);
         return answered(packer.packs(set, m) ? 1 : 0);
     }
 
     public int rowOf(int set, int m, int s) {
-        if (!isStation(s)) {
-            return refused(NO_SUCH);
-        }
-        if (!isSet(set) || !isChannel(m) || !has(set, s)) {
-            return refused(BAD_NUMBER);
+        if (isRefused(isStation(s), isSet(set) && isChannel(m) && has(set, s))) {
+            return NONE;
         }
         packer.learn(plan, now);
         packer.begin(set, m);
@@ -220,11 +211,8 @@ public final class ChannelSqueeze {
     }
 
     public int rows(int set, int m) {
-        if (!hasText()) {
-            return refused(NO_SUCH);
-        }
-        if (!isSet(set) || !isChannel(m)) {
-            return refused(BAD_NUMBER);
+        if (isRefused(hasText(), isSet(set) && isChannel(m))) {
+            return NONE;
         }
         packer.learn(plan, now);
         packer.begin(set, m);
@@ -232,11 +220,8 @@ public final class ChannelSqueeze {
     }
 
     public int fewest(int set) {
-        if (!hasText()) {
-            return refused(NO_SUCH);
-        }
-        if (!isSet(set)) {
-            return refused(BAD_NUMBER);
+        if (isRefused(hasText(), isSet(set))) {
+            return NONE;
         }
         if (set == 0) {
             return answered(0);
@@ -251,11 +236,8 @@ public final class ChannelSqueeze {
     }
 
     public int proof(int set, int m) {
-        if (!hasText()) {
-            return refused(NO_SUCH);
-        }
-        if (!isSet(set) || !isChannel(m)) {
-            return refused(BAD_NUMBER);
+        if (isRefused(hasText(), isSet(set) && isChannel(m))) {
+            return NONE;
         }
         packer.learn(plan, now);
         int found = packer.leastThatDoesNotPack(set, m);
@@ -263,11 +245,8 @@ public final class ChannelSqueeze {
     }
 
     public int cheapest(int m, int what) {
-        if (!hasText() || what < 0 || what > 1) {
-            return refused(NO_SUCH);
-        }
-        if (!isChannel(m)) {
-            return refused(BAD_NUMBER);
+        if (isRefused(hasText() && what >= 0 && what <= 1, isChannel(m))) {
+            return NONE;
         }
         packer.learn(plan, now);
         int bought = market.leastToBuy(now, m, 0);
@@ -275,11 +254,8 @@ public final class ChannelSqueeze {
     }
 
     public int could(int set, int m, int s) {
-        if (!isStation(s)) {
-            return refused(NO_SUCH);
-        }
-        if (!isSet(set) || !isChannel(m) || !has(set, s)) {
-            return refused(BAD_NUMBER);
+        if (isRefused(isStation(s), isSet(set) && isChannel(m) && has(set, s))) {
+            return NONE;
         }
         packer.learn(plan, now);
         int found = 0;
@@ -296,11 +272,8 @@ public final class ChannelSqueeze {
     // ---- the clock
 
     public int clock(int m, int price, int step, int what) {
-        if (!hasText() || what < 0 || what > 4) {
-            return refused(NO_SUCH);
-        }
-        if (!isClock(m, price, step)) {
-            return refused(BAD_NUMBER);
+        if (isRefused(hasText() && what >= 0 && what <= 4, isClock(m, price, step))) {
+            return NONE;
         }
         packer.learn(plan, now);
         market.runClock(now, m, price, step);
@@ -314,11 +287,8 @@ public final class ChannelSqueeze {
     }
 
     public int pay(int m, int price, int step, int s) {
-        if (!isStation(s)) {
-            return refused(NO_SUCH);
-        }
-        if (!isClock(m, price, step)) {
-            return refused(BAD_NUMBER);
+        if (isRefused(isStation(s), isClock(m, price, step))) {
+            return NONE;
         }
         packer.learn(plan, now);
         market.runClock(now, m, price, step);
@@ -328,21 +298,15 @@ public final class ChannelSqueeze {
     // ---- squeezed
 
     public int squeeze(int m) {
-        if (!hasText()) {
-            return refused(NO_SUCH);
-        }
-        if (!isChannel(m)) {
-            return refused(BAD_NUMBER);
+        if (isRefused(hasText(), isChannel(m))) {
+            return NONE;
         }
         return answered(squeezeNow(m) ? Integer.bitCount(squeezer.movers) : NOT_THIS);
     }
 
     public int squeezeOf(int m, int s) {
-        if (!isStation(s)) {
-            return refused(NO_SUCH);
-        }
-        if (!isChannel(m)) {
-            return refused(BAD_NUMBER);
+        if (isRefused(isStation(s), isChannel(m))) {
+            return NONE;
         }
         if (!squeezeNow(m)) {
             return refused(THERE_IS_NONE);
@@ -351,11 +315,8 @@ public final class ChannelSqueeze {
     }
 
     public int order(int m, int i) {
-        if (!hasText() || i < 0) {
-            return refused(NO_SUCH);
-        }
-        if (!isChannel(m)) {
-            return refused(BAD_NUMBER);
+        if (isRefused(hasText() && i >= 0, isChannel(m))) {
+            return NONE;
         }
         if (!squeezeNow(m)) {
             return refused(THERE_IS_NONE);
@@ -365,11 +326,8 @@ public final class ChannelSqueeze {
     }
 
     public int steps(int m, int what) {
-        if (!hasText() || what < 0 || what > 2) {
-            return refused(NO_SUCH);
-        }
-        if (!isChannel(m)) {
-            return refused(BAD_NUMBER);
+        if (isRefused(hasText() && what >= 0 && what <= 2, isChannel(m))) {
+            return NONE;
         }
         packer.learn(plan, now);
         if (!squeezer.goDown(now, plan.channels - 1, m)) {
@@ -390,11 +348,8 @@ public final class ChannelSqueeze {
     // ---- bought, heard
 
     public int due(int m, int s) {
-        if (!isStation(s)) {
-            return refused(NO_SUCH);
-        }
-        if (!isChannel(m)) {
-            return refused(BAD_NUMBER);
+        if (isRefused(isStation(s), isChannel(m))) {
+            return NONE;
         }
         packer.learn(plan, now);
         int bought = market.leastToBuy(now, m, 0);
@@ -409,11 +364,8 @@ public final class ChannelSqueeze {
     }
 
     public int heard(int x, int y, int kind) {
-        if (!hasText() || kind < 0 || kind > 2) {
-            return refused(NO_SUCH);
-        }
-        if (x < 0 || x > MOST_PLACE || y < 0 || y > MOST_PLACE) {
-            return refused(BAD_NUMBER);
+        if (isRefused(hasText() && kind >= 0 && kind <= 2, isPlace(x) && isPlace(y))) {
+            return NONE;
         }
         int stations = plan.stations.reaching(x, y) & now.air;
         if (kind == 0) {
@@ -470,11 +422,8 @@ public final class ChannelSqueeze {
     // ---- acts
 
     public int move(int s, int c, boolean forced) {
-        if (!isStation(s)) {
-            return refused(NO_SUCH);
-        }
-        if (!isChannel(c)) {
-            return refused(BAD_NUMBER);
+        if (isRefused(isStation(s), isChannel(c))) {
+            return NONE;
         }
         if (!forced && !now.isFree(plan, s, c)) {
             return refused(NOT_SO);
@@ -486,11 +435,8 @@ public final class ChannelSqueeze {
     }
 
     public int buy(int s, int v) {
-        if (!isStation(s)) {
-            return refused(NO_SUCH);
-        }
-        if (!isPrice(v)) {
-            return refused(BAD_NUMBER);
+        if (isRefused(isStation(s), isPrice(v))) {
+            return NONE;
         }
         if (!has(now.air, s)) {
             return refused(NOT_SO);
@@ -514,11 +460,8 @@ public final class ChannelSqueeze {
     }
 
     public int lay(int m) {
-        if (!hasText()) {
-            return refused(NO_SUCH);
-        }
-        if (!isChannel(m)) {
-            return refused(BAD_NUMBER);
+        if (isRefused(hasText(), isChannel(m))) {
+            return NONE;
         }
         if (!squeezeNow(m)) {
             return refused(THERE_IS_NONE);
@@ -531,11 +474,8 @@ public final class ChannelSqueeze {
     }
 
     public int clear(int m, int price, int step) {
-        if (!hasText()) {
-            return refused(NO_SUCH);
-        }
-        if (!isClock(m, price, step)) {
-            return refused(BAD_NUMBER);
+        if (isRefused(hasText(), isClock(m, price, step))) {
+            return NONE;
         }
         packer.learn(plan, now);
         market.runClock(now, m, price, step);
@@ -546,11 +486,8 @@ public final class ChannelSqueeze {
     }
 
     public int value(int s, int v) {
-        if (!isStation(s)) {
-            return refused(NO_SUCH);
-        }
-        if (!isPrice(v)) {
-            return refused(BAD_NUMBER);
+        if (isRefused(isStation(s), isPrice(v))) {
+            return NONE;
         }
         history.remember(now);
         int was = now.worth[s];
@@ -559,11 +496,8 @@ public final class ChannelSqueeze {
     }
 
     public int ban(int s, int c) {
-        if (!isStation(s)) {
-            return refused(NO_SUCH);
-        }
-        if (!isChannel(c)) {
-            return refused(BAD_NUMBER);
+        if (isRefused(isStation(s), isChannel(c))) {
+            return NONE;
         }
         history.remember(now);
         now.banned[s] ^= channelBit(c);
@@ -622,6 +556,12 @@ public final class ChannelSqueeze {
 
     // ---- what the calls share
 
+    /** Most calls refuse by 1 what isn't there, and only then by 2 a number out of its bounds. */
+    private boolean isRefused(boolean isThere, boolean isWithinBounds) {
+        latestTrouble = !isThere ? NO_SUCH : !isWithinBounds ? BAD_NUMBER : 0;
+        return latestTrouble != 0;
+    }
+
     private int refused(int number) {
         latestTrouble = number;
         return NONE;
@@ -655,6 +595,10 @@ public final class ChannelSqueeze {
 
     private static boolean isPrice(int v) {
         return v >= 0 && v <= MOST_PRICE;
+    }
+
+    private static boolean isPlace(int v) {
+        return v >= 0 && v <= MOST_PLACE;
     }
 
     private static int bit(int s) {
