@@ -4,15 +4,33 @@ import java.nio.charset.StandardCharsets;
 final class Check {
     private static int wrong = 0;
     private static int asked = 0;
+    private static String ahead = "";
 
     private Check() {
+    }
+
+    /** What stands ahead of each message from here on. */
+    static void begin(String of) {
+        ahead = of;
+    }
+
+    static int asked() {
+        return asked;
     }
 
     static void same(String call, long got, long want) {
         asked++;
         if (got != want) {
             wrong++;
-            System.out.println(call + " answered " + got + ", due is " + want);
+            System.out.println(ahead + call + " answered " + got + ", due is " + want);
+        }
+    }
+
+    static void text(String what, String got, String want) {
+        asked++;
+        if (!got.equals(want)) {
+            wrong++;
+            System.out.println(ahead + what + " is " + got + ", due is " + want);
         }
     }
 
