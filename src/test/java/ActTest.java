@@ -14,7 +14,6 @@ public final class ActTest {
         clear();
         value();
         ban();
-        undoEachAct();
         undoTenAtMost();
         refusedActsAreNoActs();
         keepAndBack();
@@ -180,23 +179,6 @@ public final class ActTest {
             case 5: x.value(0, 77); break;
             default: x.ban(2, 4);
         }
-    }
-
-    private static void undoEachAct() {
-        ChannelSqueeze x = Check.told(ROW);
-        String[] states = new String[8];
-        for (int which = 0; which < 7; which++) {
-            states[which] = Check.state(x);
-            act(x, which);
-            Check.same("trouble of act " + which, x.trouble(), 0);
-            Check.gives(x, "acts behind " + which, x.about(8), which + 1);
-        }
-        for (int which = 6; which >= 0; which--) {
-            Check.gives(x, "undo()", x.undo(), which);
-            Check.isTrue("it is as ahead of act " + which, Check.state(x).equals(states[which]));
-        }
-        Check.refuses(x, "undo() of none", x.undo(), 5);
-        Check.isTrue("it is as at first", Check.state(x).equals(states[0]));
     }
 
     private static void undoTenAtMost() {

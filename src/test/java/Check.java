@@ -82,12 +82,14 @@ final class Check {
         for (int what = 0; what <= 8; what++) {
             all.append(x.about(what)).append(' ');
         }
-        for (int s = 0; s < 9; s++) {
+        int stations = x.about(1);
+        for (int s = 0; s < stations; s++) {
             for (int what = 0; what <= 7; what++) {
                 all.append(x.station(s, what)).append(' ');
             }
         }
-        for (int b = 0; b < 5; b++) {
+        int borders = x.about(2);
+        for (int b = 0; b < borders; b++) {
             for (int what = 0; what <= 4; what++) {
                 all.append(x.border(b, what)).append(' ');
             }

@@ -264,6 +264,9 @@ public final class FitEdgeTest {
         ChannelSqueeze x = Edges.heap(3, 1, 1, 1, 1);
         Edges.banAllBut(x, 3);
         Check.gives(x, "one without a list", x.proof(15, 3), 8);
+        Edges.banAllBut(x, 0);
+        Check.gives(x, "the first without a list", x.proof(15, 3), 1);
+        x.ban(0, 1);
         Check.gives(x, "two of three in 1", x.proof(7, 1), 3);
     }
 

@@ -3,8 +3,9 @@ import java.util.Random;
 
 /** Long runs of calls, drawn by a fixed seed, on the class and on the model: all answers are the same. */
 public final class ModelTest {
-    private static final int RUNS = Integer.getInteger("runs", 600);
-    private static final int CALLS = 120;
+    private static final int RUNS = Integer.getInteger("runs", 900);
+    /** The document promises 512; a text and what is asked behind it may come on top of these. */
+    private static final int CALLS = 460;
     private static final int SEED = Integer.getInteger("seed", 1);
 
     private final Random random;
@@ -12,6 +13,7 @@ public final class ModelTest {
     private final Model model = new Model();
     private int stations = 0;
     private int channels = 0;
+    private int calls = 0;
     private boolean crowded;
 
     private ModelTest(long seed) {
@@ -27,7 +29,7 @@ public final class ModelTest {
 
     private void play(int run) {
         crowded = random.nextInt(3) > 0;
-        for (int call = 0; call < CALLS; call++) {
+        for (int call = 0; calls < CALLS; call++) {
             String what = "run " + run + ", call " + call + ": ";
             if (call == 3 || random.nextInt(60) == 0) {
                 tellText(what);
@@ -38,6 +40,7 @@ public final class ModelTest {
             Check.same(what + "fault()", x.fault(), model.fault());
             Check.same(what + "where()", x.where(), model.where());
             Check.same(what + "bytes()", x.bytes(), model.bytes());
+            calls += 5;
         }
     }
 
@@ -66,6 +69,7 @@ public final class ModelTest {
             padded.append(' ');
         }
         for (int from = 0; from < padded.length(); from += 20) {
+            calls++;
             int[] five = new int[5];
             for (int i = 0; i < 20; i++) {
                 five[i / 4] |= (padded.charAt(from + i) & 255) << (24 - 8 * (i % 4));

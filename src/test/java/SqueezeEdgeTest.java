@@ -67,6 +67,24 @@ public final class SqueezeEdgeTest {
     }
 
     @Says("SQUEEZED by m: the ROW of all ON AIR up to m by which the fewest have another CHANNEL than NOW, of like ones the first.")
+    static void p22OfLikeOnesTheFirstBehindOneThatStands() {
+        for (boolean onAir : new boolean[] {true, false}) {
+            ChannelSqueeze x = Check.told("channels 4;station a at 90 90 reach 1 on 3 worth 1;station b at 0 0 reach 5 on 1 worth 1;"
+                + "station c at 8 0 reach 5 on 1 worth 1");
+            if (!onAir) {
+                x.buy(0, 0);
+            }
+            row(x, 4, 1, 3, 1, 2);
+            place(x, 3, 2, 2);
+            row(x, 4, 1, 3, 1, 2);
+            place(x, 3, 3, 3);
+            x.ban(1, 1);
+            x.ban(1, 2);
+            row(x, 4, 1, 3, 3, 1);
+        }
+    }
+
+    @Says("SQUEEZED by m: the ROW of all ON AIR up to m by which the fewest have another CHANNEL than NOW, of like ones the first.")
     static void p22WhoIsOnTheLastChannelMayStay() {
         ChannelSqueeze x = Edges.apart(10, 1, 1);
         place(x, 10, 9);

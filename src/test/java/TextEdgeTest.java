@@ -77,12 +77,8 @@ public final class TextEdgeTest {
         Check.text("all", Edges.all(x), Edges.all(y));
     }
 
-    @Says("all is anew: how many STATIONS")
-    static void p03ALesserTextLeavesNothingOfAGreater() {
-        ChannelSqueeze x = Check.told("channels 10;station abcdefgh at 1 1 reach 60 on 10 worth 999 not 1,2,3;"
-            + "station b at 1 1 reach 60 on 10 worth 999 not 1;station c at 1 1 reach 60 on 9 worth 9;border at 1 1 reach 60 not 1,2");
-        Check.gives(x, "fits(7, 10)", x.fits(7, 10), 1);
-        Check.gives(x, "a lesser text", Check.tell(x, "channels 1;station q at 50 50 reach 1 on 1 worth 0"), 1);
+    /** All of a text of one station, one channel and no border is as it is told. */
+    private static void isTheLeast(ChannelSqueeze x) {
         Check.gives(x, "channels", x.about(0), 1);
         Check.gives(x, "stations", x.about(1), 1);
         Check.gives(x, "borders", x.about(2), 0);
@@ -97,6 +93,63 @@ public final class TextEdgeTest {
         Check.refuses(x, "border 0 is no more", x.border(0, 0), 1);
         Check.refuses(x, "channel 2 is no more", x.on(2), 2);
         Check.same("a longer name is no more", Edges.letterOf(x, 0, 1), Edges.THROWN);
+    }
+
+    private static final String GREATER = "channels 10;station abcdefgh at 50 50 reach 60 on 10 worth 999 not 1,2,3;"
+        + "station b at 50 50 reach 60 on 10 worth 999 not 1;station c at 50 50 reach 60 on 9 worth 9;border at 50 50 reach 60 not 1,2";
+    private static final String LEAST = "channels 1;station q at 50 50 reach 1 on 1 worth 0";
+
+    @Says("all is anew: how many STATIONS")
+    static void p03ALesserTextLeavesNothingOfAGreater() {
+        ChannelSqueeze x = Check.told(GREATER);
+        Check.gives(x, "fits(7, 10)", x.fits(7, 10), 1);
+        for (int times = 0; times < 3; times++) {
+            Check.gives(x, "a lesser text", Check.tell(x, LEAST), 1);
+            isTheLeast(x);
+        }
+    }
+
+    @Says("all is anew: how many STATIONS")
+    static void p03AFaultyTextLeavesNothingForTheNext() {
+        ChannelSqueeze x = new ChannelSqueeze();
+        for (int times = 0; times < 2; times++) {
+            Check.same("a faulty text", Check.tell(x, GREATER + "?"), -1);
+            Check.same("another one", Check.tell(x, "channels 3;border at 50 50 reach 9 not 1,1"), -1);
+            Check.gives(x, "a lesser text", Check.tell(x, LEAST), 1);
+            isTheLeast(x);
+        }
+    }
+
+    @Says("all is anew: how many STATIONS")
+    static void p03BordersOfOldTakeNothing() {
+        String border = ";border at 0 0 reach 9 not ";
+        ChannelSqueeze x = new ChannelSqueeze();
+        for (boolean near : new boolean[] {true, false, false, true, true, false, true}) {
+            Check.tell(x, near ? ONE + border + 3 : "channels 3;station a at 50 50 reach 1 on 1 worth 0" + border + 1);
+            Check.gives(x, "the channels of the border", x.border(0, 3), near ? 4 : 1);
+            Check.gives(x, "for whom it counts", x.border(0, 4), near ? 1 : 0);
+            Check.gives(x, "list", x.station(0, 6), near ? 3 : 7);
+        }
+    }
+
+    private static String two(int apart) {
+        return "channels 3;station a at 0 0 reach 5 on 1 worth 0;station b at " + apart + " 0 reach 5 on 1 worth 0";
+    }
+
+    @Says("all is anew: how many STATIONS")
+    static void p03WhatFitsIsAnew() {
+        ChannelSqueeze x = Check.told(two(11));
+        Check.gives(x, "neither clash nor brush: in 1", x.fits(3, 1), 1);
+        Check.tell(x, two(10));
+        Check.gives(x, "clash: in 1", x.fits(3, 1), 0);
+        Check.gives(x, "clash: in 2", x.fits(3, 2), 1);
+        Check.tell(x, two(5));
+        Check.gives(x, "brush: in 2", x.fits(3, 2), 0);
+        Check.tell(x, two(10));
+        Check.gives(x, "clash again: in 2", x.fits(3, 2), 1);
+        Check.gives(x, "clash again: in 1", x.fits(3, 1), 0);
+        Check.tell(x, two(11));
+        Check.gives(x, "neither again: in 1", x.fits(3, 1), 1);
     }
 
     @Says("all is anew: how many STATIONS")

@@ -54,6 +54,46 @@ public final class UndoEdgeTest {
         }
     }
 
+    /** Eight stations that differ in all, each act on each of them. */
+    private static ChannelSqueeze eight() {
+        StringBuilder text = new StringBuilder("channels 10");
+        for (int s = 0; s < 8; s++) {
+            text.append(";station ").append((char) ('a' + s)).append(" at ").append(9 * s).append(" 0 reach 1 on ").append(s + 1)
+                .append(" worth ").append(100 + s).append(" not 10");
+        }
+        return Check.told(text.toString());
+    }
+
+    private static void actOn(ChannelSqueeze x, int s) {
+        x.move(s, 10 - s, true);
+        x.value(s, 200 + s);
+        x.ban(s, s + 1);
+        x.buy(s, 1 + s);
+    }
+
+    @Says("The latest ACT is undone: how many still can be.")
+    static void p37OfEachOfEightStations() {
+        for (int s = 0; s < 8; s++) {
+            ChannelSqueeze x = eight();
+            String at = now(x);
+            actOn(x, s);
+            Check.isTrue("acts on station " + s, !now(x).equals(at));
+            for (int left = 3; left >= 0; left--) {
+                Check.gives(x, "undo() on station " + s, x.undo(), left);
+            }
+            Check.text("all ahead of the acts on station " + s, now(x), at);
+        }
+    }
+
+    @Says("The latest ACT is undone: how many still can be.")
+    static void p37ABanUndoneCountsForWhatFits() {
+        ChannelSqueeze x = Edges.apart(2, 1);
+        x.ban(0, 1);
+        Check.gives(x, "fits(1, 1) behind a ban", x.fits(1, 1), 0);
+        x.undo();
+        Check.gives(x, "fits(1, 1) behind its undoing", x.fits(1, 1), 1);
+    }
+
     @Says("ACTS (calls that say so); the latest 10 that weren't refused can be undone, the latest first (a TEXT leaves none).")
     static void p37TheLatestTenAndNoMore() {
         for (int acts : new int[] {1, 9, 10, 11, 12, 19, 20, 21, 30, 31}) {
@@ -214,6 +254,22 @@ public final class UndoEdgeTest {
             Check.gives(x, "back()", back(x, which % 2), 1);
             Check.text("all ahead of act " + which, now(x), then);
         }
+    }
+
+    @Says("IMAGES 0, 1 keep all that is NOW (WORTHS, BANS, PAID, too)")
+    static void p39OfEachOfEightStations() {
+        ChannelSqueeze x = eight();
+        String first = now(x);
+        x.keep(0);
+        for (int s = 0; s < 8; s++) {
+            actOn(x, s);
+        }
+        String second = now(x);
+        x.keep(1);
+        Check.gives(x, "back(0)", back(x, 0), 1);
+        Check.text("all at first", now(x), first);
+        Check.gives(x, "back(1)", back(x, 1), 1);
+        Check.text("all at last", now(x), second);
     }
 
     @Says("IMAGES 0, 1 keep all that is NOW (WORTHS, BANS, PAID, too)")
