@@ -203,10 +203,11 @@ public final class ChannelSqueeze {
             return NONE;
         }
         packer.learn(plan, now);
-        packer.begin(set, m);
-        if (!packer.settle(set)) {
+        if (!packer.packs(set, m)) {
             return refused(THERE_IS_NONE);
         }
+        packer.begin(set, m);
+        packer.settle(set);
         return answered(packer.settledChannel(s));
     }
 
@@ -215,6 +216,9 @@ public final class ChannelSqueeze {
             return NONE;
         }
         packer.learn(plan, now);
+        if (!packer.packs(set, m)) {
+            return answered(0);
+        }
         packer.begin(set, m);
         return answered(packer.countRows(0, set, MOST_ROWS));
     }
@@ -259,7 +263,7 @@ public final class ChannelSqueeze {
         }
         packer.learn(plan, now);
         int found = 0;
-        for (int c = 1; c <= m; c++) {
+        for (int c = 1; c <= m && packer.packs(set, m); c++) {
             packer.begin(set, m);
             packer.limit(s, channelBit(c));
             if (packer.search(0, set)) {
@@ -1185,22 +1189,51 @@ public final class ChannelSqueeze {
         private final int[][] left = new int[MOST_STATIONS + 1][MOST_STATIONS];
         /** Twice the age at which a set was tried with so many channels, and 1 more if it packs. */
         private final int[] known = new int[(MOST_CHANNELS + 1) * SETS];
+        /** So many channels a set of the stations told needs at least, whatever its lists are. */
+        private final int[] needed = new int[SETS];
+        private int stations;
         /** Grows when the lists or the neighbours are others: what is known of old is void then. */
         private int age;
 
         void learn(Plan plan, Now now) {
-            boolean changed = age == 0;
+            boolean otherLists = false;
+            boolean otherNeighbours = stations != plan.stations.count;
+            stations = plan.stations.count;
             for (int s = 0; s < MOST_STATIONS; s++) {
                 int listed = now.listOf(plan, s);
-                if (list[s] != listed || clash[s] != plan.clash[s] || brush[s] != plan.brush[s]) {
-                    list[s] = listed;
-                    clash[s] = plan.clash[s];
-                    brush[s] = plan.brush[s];
-                    changed = true;
-                }
+                otherLists = otherLists || list[s] != listed;
+                otherNeighbours = otherNeighbours || clash[s] != plan.clash[s] || brush[s] != plan.brush[s];
+                list[s] = listed;
+                clash[s] = plan.clash[s];
+                brush[s] = plan.brush[s];
             }
-            if (changed) {
+            if (otherNeighbours) {
+                learnNeeded();
+            }
+            if (otherLists || otherNeighbours) {
                 age++;
+            }
+        }
+
+        /**
+         * Those of whom each clashes with each need a channel each, and one between if each brushes
+         * each: that tells of many sets, without a search, that they don't pack.
+         */
+        private void learnNeeded() {
+            for (int set = 1; set < bit(stations) && set < SETS; set++) {
+                int least = 1;
+                boolean allClash = true;
+                boolean allBrush = true;
+                for (int s = 0; s < MOST_STATIONS; s++) {
+                    if (has(set, s)) {
+                        int others = set & ~bit(s);
+                        least = Math.max(least, needed[others]);
+                        allClash = allClash && (others & ~clash[s]) == 0;
+                        allBrush = allBrush && (others & ~brush[s]) == 0;
+                    }
+                }
+                int count = Integer.bitCount(set);
+                needed[set] = allBrush ? 2 * count - 1 : allClash ? count : least;
             }
         }
 
@@ -1211,7 +1244,7 @@ public final class ChannelSqueeze {
             int at = m * SETS + set;
             if (known[at] >> 1 != age) {
                 begin(set, m);
-                known[at] = 2 * age + (search(0, set) ? 1 : 0);
+                known[at] = 2 * age + (needed[set] <= m && search(0, set) ? 1 : 0);
             }
             return (known[at] & 1) != 0;
         }

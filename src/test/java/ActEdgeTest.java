@@ -373,6 +373,28 @@ public final class ActEdgeTest {
     }
 
     @Says("ACT: a CHANNEL is BANNED for a STATION, or not any more, if it was: its BANNED ones then (bits).")
+    static void p36BansOfManyCountAtOnce() {
+        ChannelSqueeze x = Edges.apart(2, 1, 1, 1, 1, 1, 1, 1, 1);
+        Check.gives(x, "all eight in 1", x.fits(255, 1), 1);
+        Check.gives(x, "two in 1", x.fits(3, 1), 1);
+        x.ban(0, 1);
+        x.ban(1, 1);
+        Check.gives(x, "two in 1, banned for both", x.fits(3, 1), 0);
+        for (int s = 2; s < 8; s++) {
+            x.ban(s, 1);
+        }
+        Check.gives(x, "six in 1, banned for all", x.fits(252, 1), 0);
+        for (int s = 0; s < 8; s++) {
+            x.ban(s, 1);
+        }
+        Check.gives(x, "all eight in 1 again", x.fits(255, 1), 1);
+        for (int s = 0; s < 8; s++) {
+            x.ban(s, 1);
+        }
+        Check.gives(x, "all eight in 1, banned for all", x.fits(255, 1), 0);
+    }
+
+    @Says("ACT: a CHANNEL is BANNED for a STATION, or not any more, if it was: its BANNED ones then (bits).")
     static void p36ABordersChannelStaysTheBorders() {
         ChannelSqueeze x = Check.told(Edges.THREE);
         Check.gives(x, "ban(0, 3)", x.ban(0, 3), 4);

@@ -58,6 +58,9 @@ public final class FitEdgeTest {
         for (int m = 1; m <= 4; m++) {
             Check.gives(x, "fits(0, " + m + ")", x.fits(0, m), 1);
         }
+        ChannelSqueeze y = Check.told("channels 1;station a at 0 0 reach 1 on 1 worth 0 not 1");
+        Check.gives(y, "fits(0, 1), asked first of one without a list", y.fits(0, 1), 1);
+        Check.gives(y, "fits(1, 1) of one without a list", y.fits(1, 1), 0);
     }
 
     @Says("Sets of STATIONS, of CHANNELS are bits (STATION 0, CHANNEL 1 counts 1).")
@@ -135,6 +138,19 @@ public final class FitEdgeTest {
     }
 
     @Says("The CHANNEL of a STATION by the first ROW of a set up to m.")
+    static void p14AskedAgainBehindOtherQuestions() {
+        ChannelSqueeze x = Edges.heap(5, 1, 1, 1);
+        row(x, 7, 5, 1, 3, 5);
+        Check.gives(x, "fits(1, 1)", x.fits(1, 1), 1);
+        row(x, 7, 5, 1, 3, 5);
+        Check.gives(x, "could(4, 2, 2)", x.could(4, 2, 2), 3);
+        row(x, 3, 3, 1, 3);
+        row(x, 7, 5, 1, 3, 5);
+        Check.gives(x, "proof(7, 1)", x.proof(7, 1), 3);
+        row(x, 6, 3, 0, 1, 3);
+    }
+
+    @Says("The CHANNEL of a STATION by the first ROW of a set up to m.")
     static void p14TheLastChannelAlone() {
         ChannelSqueeze x = Check.told("channels 10;station a at 0 0 reach 1 on 1 worth 0 not 1,2,3,4,5,6,7,8;"
             + "station b at 0 2 reach 1 on 1 worth 0 not 1,2,3,4,5,6,7,8,10");
@@ -196,6 +212,17 @@ public final class FitEdgeTest {
         Check.gives(y, "a hundred millions", y.rows(255, 10), 999);
         y.ban(0, 1);
         Check.gives(y, "900", y.rows(7, 10), 900);
+    }
+
+    @Says("How many ROWS a set has up to m (999 at most are counted).")
+    static void p15AskedAgainBehindOtherQuestions() {
+        ChannelSqueeze x = Edges.heap(5, 1, 1, 1);
+        Check.gives(x, "three up to 5", x.rows(7, 5), 6);
+        Check.gives(x, "fits(1, 1)", x.fits(1, 1), 1);
+        Check.gives(x, "three up to 5 again", x.rows(7, 5), 6);
+        Check.gives(x, "rowOf(7, 5, 2)", x.rowOf(7, 5, 2), 5);
+        Check.gives(x, "three up to 5 once more", x.rows(7, 5), 6);
+        Check.gives(x, "two up to 4", x.rows(6, 4), 6);
     }
 
     @Says("How many ROWS a set has up to m (999 at most are counted).")

@@ -3,7 +3,7 @@ import java.util.Random;
 
 /** Long runs of calls, drawn by a fixed seed, on the class and on the model: all answers are the same. */
 public final class ModelTest {
-    private static final int RUNS = Integer.getInteger("runs", 900);
+    private static final int RUNS = Integer.getInteger("runs", 2400);
     /** The document promises 512; a text and what is asked behind it may come on top of these. */
     private static final int CALLS = 460;
     private static final int SEED = Integer.getInteger("seed", 1);
@@ -29,9 +29,10 @@ public final class ModelTest {
 
     private void play(int run) {
         crowded = random.nextInt(3) > 0;
+        boolean restless = random.nextInt(3) == 0;
         for (int call = 0; calls < CALLS; call++) {
             String what = "run " + run + ", call " + call + ": ";
-            if (call == 3 || random.nextInt(60) == 0) {
+            if (call == 3 || random.nextInt(restless ? 9 : 60) == 0) {
                 tellText(what);
             } else {
                 oneCall(what);

@@ -132,24 +132,41 @@ public final class TextEdgeTest {
         }
     }
 
-    private static String two(int apart) {
-        return "channels 3;station a at 0 0 reach 5 on 1 worth 0;station b at " + apart + " 0 reach 5 on 1 worth 0";
+    private static String inARow(int count, int apart) {
+        StringBuilder text = new StringBuilder("channels 3");
+        for (int s = 0; s < count; s++) {
+            text.append(";station ").append((char) ('a' + s)).append(" at ").append(s * apart).append(" 0 reach 5 on 1 worth 0");
+        }
+        return text.toString();
     }
 
     @Says("all is anew: how many STATIONS")
     static void p03WhatFitsIsAnew() {
-        ChannelSqueeze x = Check.told(two(11));
+        ChannelSqueeze x = Check.told(inARow(8, 11));
         Check.gives(x, "neither clash nor brush: in 1", x.fits(3, 1), 1);
-        Check.tell(x, two(10));
+        Check.tell(x, inARow(8, 10));
         Check.gives(x, "clash: in 1", x.fits(3, 1), 0);
         Check.gives(x, "clash: in 2", x.fits(3, 2), 1);
-        Check.tell(x, two(5));
+        Check.tell(x, inARow(8, 5));
         Check.gives(x, "brush: in 2", x.fits(3, 2), 0);
-        Check.tell(x, two(10));
+        Check.tell(x, inARow(8, 10));
         Check.gives(x, "clash again: in 2", x.fits(3, 2), 1);
         Check.gives(x, "clash again: in 1", x.fits(3, 1), 0);
-        Check.tell(x, two(11));
+        Check.tell(x, inARow(8, 11));
         Check.gives(x, "neither again: in 1", x.fits(3, 1), 1);
+    }
+
+    @Says("all is anew: how many STATIONS")
+    static void p03WhatFitsIsAnewWithFewerAndWithMoreStations() {
+        ChannelSqueeze x = Check.told(inARow(8, 5));
+        Check.gives(x, "eight that brush in 2", x.fits(255, 2), 0);
+        for (int count : new int[] {1, 3, 8, 2, 7, 5, 8}) {
+            Check.tell(x, inARow(count, 11));
+            Check.gives(x, count + " that don't clash in 1", x.fits((1 << count) - 1, 1), 1);
+        }
+        Check.tell(x, inARow(8, 10));
+        Check.gives(x, "eight that clash in 1", x.fits(255, 1), 0);
+        Check.gives(x, "the last two of them in 1", x.fits(192, 1), 0);
     }
 
     @Says("all is anew: how many STATIONS")
