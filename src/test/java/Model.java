@@ -1,14 +1,17 @@
 import java.util.ArrayList;
 import java.util.Arrays;
+import java.util.HashMap;
 import java.util.HashSet;
 import java.util.List;
+import java.util.Map;
 import java.util.NoSuchElementException;
 import java.util.Set;
 import java.util.TreeSet;
 
 /**
- * The document word by word, with no thought of speed: rows are tried one and all, orders as
- * permutations, the clock round by round. It shares no way of working with the class.
+ * The document word by word, with little thought of speed: rows are tried station by station from
+ * the first on, orders as permutations, the clock round by round. It shares no way of working with
+ * the class.
  */
 final class Model {
     static final Set<String> OWN = new HashSet<>(Arrays.asList(
@@ -53,6 +56,7 @@ final class Model {
     private final List<Scene> acts = new ArrayList<>();
     private final Scene[] images = new Scene[2];
     private int trouble, fault, place = -1;
+    private final Map<Integer, Boolean> fitting = new HashMap<>();
 
     // ---- texts
 
@@ -218,14 +222,14 @@ final class Model {
     int rowOf(int set, int m, int s) {
         if (!st(s)) return no(1);
         if (!set(set) || !ch(m) || (set >> s & 1) == 0) return no(2);
-        List<int[]> rows = all(set, m, 1);
+        List<int[]> rows = rows(set, m, lists(), 1);
         return rows.isEmpty() ? no(6) : yes(rows.get(0)[s]);
     }
 
     int rows(int set, int m) {
         if (!hasText) return no(1);
         if (!set(set) || !ch(m)) return no(2);
-        return yes(all(set, m, 999).size());
+        return yes(rows(set, m, lists(), 999).size());
     }
 
     int fewest(int set) {
@@ -256,7 +260,11 @@ final class Model {
         if (!st(s)) return no(1);
         if (!set(set) || !ch(m) || (set >> s & 1) == 0) return no(2);
         int found = 0;
-        for (int[] row : all(set, m, Integer.MAX_VALUE)) found |= 1 << row[s] - 1;
+        for (int c = 1; c <= m; c++) {
+            List<TreeSet<Integer>> lists = lists();
+            lists.get(s).retainAll(Set.of(c));
+            if (!rows(set, m, lists, 1).isEmpty()) found |= 1 << c - 1;
+        }
         return yes(found);
     }
 
@@ -298,13 +306,25 @@ final class Model {
 
     /** The squeezed row of those on air from given channels; null if they don't fit. */
     private int[] squeezed(int[] from, int m) {
-        int[] best = null;
-        for (int[] row : all(onAir(), m, Integer.MAX_VALUE)) {
-            int[] whole = from.clone();
-            for (int s = 0; s < n(); s++) if (at(s).air) whole[s] = row[s];
-            if (best == null || changes(whole, from) < changes(best, from)) best = whole;
+        for (int most = 0; most <= n(); most++) {
+            int[] row = from.clone();
+            if (squeezeOn(0, row, from, m, most, lists())) return row;
         }
-        return best;
+        return null;
+    }
+
+    /** The first row of the stations from s on by which no more than so many of them change. */
+    private boolean squeezeOn(int s, int[] row, int[] from, int m, int most, List<TreeSet<Integer>> lists) {
+        if (s == n()) return true;
+        if (!at(s).air) return squeezeOn(s + 1, row, from, m, most, lists);
+        for (int c : lists.get(s)) {
+            boolean ok = c <= m && (c == from[s] || most > 0);
+            for (int t = 0; t < s && ok; t++) if (at(t).air && disturb(s, c, t, row[t])) ok = false;
+            row[s] = c;
+            if (ok && squeezeOn(s + 1, row, from, m, c == from[s] ? most : most - 1, lists)) return true;
+        }
+        row[s] = from[s];
+        return false;
     }
 
     private static int changes(int[] a, int[] b) {
@@ -514,9 +534,9 @@ final class Model {
 
     // ---- terms
 
-    private int no(int number) { trouble = number; return -1; }
+    private int no(int number) { trouble = number; fitting.clear(); return -1; }
 
-    private int yes(int answer) { trouble = 0; return answer; }
+    private int yes(int answer) { trouble = 0; fitting.clear(); return answer; }
 
     private int n() { return now.stations.size(); }
 
@@ -594,13 +614,25 @@ final class Model {
         return best;
     }
 
-    private boolean fit(int set, int m) { return !all(set, m, 1).isEmpty(); }
+    /** What is found is kept for the rest of one call only: nothing changes within it. */
+    private boolean fit(int set, int m) {
+        Boolean known = fitting.get(m << 8 | set);
+        if (known == null) {
+            known = !rows(set, m, lists(), 1).isEmpty();
+            fitting.put(m << 8 | set, known);
+        }
+        return known;
+    }
 
-    /** The first rows of a set up to m in their order, up to so many. */
-    private List<int[]> all(int set, int m, int most) {
-        List<int[]> found = new ArrayList<>();
+    private List<TreeSet<Integer>> lists() {
         List<TreeSet<Integer>> lists = new ArrayList<>();
         for (int s = 0; s < n(); s++) lists.add(list(s));
+        return lists;
+    }
+
+    /** The first rows of a set up to m in their order, up to so many. */
+    private List<int[]> rows(int set, int m, List<TreeSet<Integer>> lists, int most) {
+        List<int[]> found = new ArrayList<>();
         extend(set, m, 0, new int[n()], lists, found, most);
         return found;
     }

@@ -15,6 +15,7 @@ public final class ModelTest {
     private int channels = 0;
     private int calls = 0;
     private boolean crowded;
+    private boolean full;
 
     private ModelTest(long seed) {
         random = new Random(seed);
@@ -29,6 +30,7 @@ public final class ModelTest {
 
     private void play(int run) {
         crowded = random.nextInt(3) > 0;
+        full = random.nextInt(3) == 0;
         boolean restless = random.nextInt(3) == 0;
         for (int call = 0; calls < CALLS; call++) {
             String what = "run " + run + ", call " + call + ": ";
@@ -81,9 +83,9 @@ public final class ModelTest {
     }
 
     private String someText() {
-        int count = 1 + up(8);
-        int most = 1 + up(10);
-        while (Math.pow(most, count) > 4000) {
+        int count = full ? 8 - up(3) : 1 + up(8);
+        int most = full ? 10 - up(5) : 1 + up(10);
+        while (!full && Math.pow(most, count) > 4000) {
             if (up(2) == 0) {
                 most = Math.max(1, most - 1);
             } else {
