@@ -262,8 +262,11 @@ public final class ChannelSqueeze {
             return NONE;
         }
         packer.learn(plan, now);
+        if (!packer.packs(set, m)) {
+            return answered(0);
+        }
         int found = 0;
-        for (int c = 1; c <= m && packer.packs(set, m); c++) {
+        for (int c = 1; c <= m; c++) {
             packer.begin(set, m);
             packer.limit(s, channelBit(c));
             if (packer.search(0, set)) {
@@ -1386,7 +1389,10 @@ public final class ChannelSqueeze {
         }
 
         int settledChannel(int s) {
-            for (int c = 1; s >= 0 && s < MOST_STATIONS && c <= MOST_CHANNELS; c++) {
+            if (s < 0 || s >= MOST_STATIONS) {
+                return NONE;
+            }
+            for (int c = 1; c <= MOST_CHANNELS; c++) {
                 if (left[0][s] == channelBit(c)) {
                     return c;
                 }
@@ -1607,7 +1613,10 @@ public final class ChannelSqueeze {
         }
 
         private boolean mayGo(Plan plan, Now now, int gone, int s) {
-            for (int t = 0; s >= 0 && s < MOST_STATIONS && t < MOST_STATIONS; t++) {
+            if (s < 0 || s >= MOST_STATIONS) {
+                return false;
+            }
+            for (int t = 0; t < MOST_STATIONS; t++) {
                 int channel = has(gone, t) ? row[t] : now.channel[t];
                 if (has(now.air, t) && plan.disturb(s, row[s], t, channel)) {
                     return false;
